@@ -55,7 +55,7 @@ public final class ModelRunsTest {
         int to = pick(16);
         int value = random.nextInt(4) - 1;
         int n = random.nextInt(12) == 0 ? ODD[random.nextInt(ODD.length)] : random.nextInt(9);
-        switch (random.nextInt(20)) {
+        switch (random.nextInt(21)) {
             case 0: case 1: case 2: case 3: case 4:
                 due("write(" + block + ", " + value + ")", x.write(block, value), model.write(block, value));
                 break;
@@ -91,6 +91,9 @@ public final class ModelRunsTest {
                 break;
             case 18:
                 due("changed(" + chain + ")", x.changed(chain), model.changed(chain));
+                break;
+            case 19:
+                due("backups(" + chain + ")", x.backups(chain), model.backups(chain));
                 break;
             default:
                 due("differ(" + chain + ", " + j + ", " + k + ")", x.differ(chain, j, k), model.differ(chain, j, k));
