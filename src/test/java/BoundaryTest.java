@@ -34,6 +34,7 @@ public final class BoundaryTest {
 
     public static void main(String[] args) {
         failIfACallDoesNotEnd();
+        test("What it is: sixteen blocks, one int each", BoundaryTest::everyBitOfABlockCounts);
         test("Terms: a chain has at most six backups", BoundaryTest::termsAtMostSix);
         test("Terms: numbered from 0 for its oldest one", BoundaryTest::termsOldestIsZero);
         test("Terms: A chain not 0 or 1 is BAD_CHAIN, tested first", BoundaryTest::termsChainIsTestedFirst);
@@ -71,6 +72,41 @@ public final class BoundaryTest {
         if (wrong != 0) {
             System.exit(1);
         }
+    }
+
+    private static void everyBitOfABlockCounts() {
+        for (int before : new int[] {0, -1, 0x12345678}) {
+            for (int bit = 0; bit < 32; bit++) {
+                for (int block : new int[] {1, 8, 14}) {
+                    oneBitCounts(0, block, before, before ^ 1 << bit);
+                    oneBitCounts(1, block, before, before ^ 1 << bit);
+                }
+            }
+        }
+    }
+
+    private static void oneBitCounts(int chain, int block, int before, int after) {
+        String of = "block " + block + " from " + before + " to " + after + ", chain " + chain + ": ";
+        ChangedBlocks x = new ChangedBlocks();
+        x.write(block, before);
+        x.backup(chain);
+        x.write(block, after);
+        due(of + "read", x.read(block), after);
+        due(of + "changed", x.changed(chain), 1);
+        x.backup(chain);
+        due(of + "differ", x.differ(chain, 0, 1), 1);
+        due(of + "readBackup of the first", x.readBackup(chain, 0, block), before);
+        due(of + "readBackup of the second", x.readBackup(chain, 1, block), after);
+        due(of + "restore of the first", x.restore(chain, 0), 1);
+        due(of + "read after it", x.read(block), before);
+        due(of + "restore of the second", x.restore(chain, 1), 1);
+        due(of + "read after it", x.read(block), after);
+        x.copy(block, block - 1, 1);
+        due(of + "read after a copy to the block before", x.read(block - 1), after);
+        x.copy(block, block + 1, 1);
+        due(of + "read after a copy to the block behind", x.read(block + 1), after);
+        x.drop(chain, 0);
+        due(of + "readBackup after a drop", x.readBackup(chain, 0, block), after);
     }
 
     private static void termsAtMostSix() {

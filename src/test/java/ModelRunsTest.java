@@ -8,18 +8,23 @@ import java.util.Random;
  */
 public final class ModelRunsTest {
     private static final int RUNS = 4000;
-    // With the look at the whole state (284 calls) a run stays within the 512 calls of an object.
-    private static final int MOST_CALLS = 228;
+    // Each look comes last and ends within the 512 calls that an object is used for.
+    private static final int CALLS_BEFORE_WHOLE_LOOK = 512 - 284;
+    private static final int CALLS_BEFORE_SHORT_LOOK = 512 - 20;
+    private static final int KINDS = 21;
     private static final int[] ODD = {-1, -2, 2, 6, 7, 16, 17, Integer.MIN_VALUE, Integer.MAX_VALUE};
 
     private final Random random;
+    private final int[] values;
     private final ChangedBlocks x = new ChangedBlocks();
     private final Model model = new Model();
     private final StringBuilder calls = new StringBuilder();
     private boolean right = true;
 
     private ModelRunsTest(int seed) {
-        random = new Random(seed);
+        // Seeds that lie close together begin with nearly the same numbers.
+        random = new Random(seed * 0x9E3779B97F4A7C15L);
+        values = fewValues();
     }
 
     public static void main(String[] args) {
@@ -36,26 +41,42 @@ public final class ModelRunsTest {
         }
     }
 
+    // Few, so that blocks are often alike, and all but the 0 one bit apart from another one.
+    private int[] fewValues() {
+        int base = random.nextInt();
+        return new int[] {0, base, base ^ 1 << random.nextInt(32), base ^ 1 << random.nextInt(32)};
+    }
+
     private boolean agrees() {
-        int length = random.nextInt(MOST_CALLS + 1);
-        for (int i = 0; i < length && right; i++) {
-            callOnce();
-        }
+        boolean wholeLook = random.nextBoolean();
+        callSome(wholeLook ? random.nextInt(CALLS_BEFORE_WHOLE_LOOK + 1) : CALLS_BEFORE_SHORT_LOOK);
         if (right) {
-            lookAtEverything();
+            lookAtDiskAndCounts();
+        }
+        if (right && wholeLook) {
+            lookAtBackups();
         }
         return right;
     }
 
-    private void callOnce() {
+    // Some runs keep to one kind of call for the most part, so that each kind comes hundreds of times in one object.
+    private void callSome(int length) {
+        int favourite = random.nextInt(KINDS);
+        int share = 45 * random.nextInt(3);
+        for (int i = 0; i < length && right; i++) {
+            callOnce(random.nextInt(100) < share ? favourite : random.nextInt(KINDS));
+        }
+    }
+
+    private void callOnce(int kind) {
         int chain = pick(2);
         int k = pick(6);
         int j = pick(6);
         int block = pick(16);
         int to = pick(16);
-        int value = random.nextInt(4) - 1;
+        int value = values[random.nextInt(values.length)];
         int n = random.nextInt(12) == 0 ? ODD[random.nextInt(ODD.length)] : random.nextInt(9);
-        switch (random.nextInt(21)) {
+        switch (kind) {
             case 0: case 1: case 2: case 3: case 4:
                 due("write(" + block + ", " + value + ")", x.write(block, value), model.write(block, value));
                 break;
@@ -101,13 +122,18 @@ public final class ModelRunsTest {
         }
     }
 
-    private void lookAtEverything() {
+    private void lookAtDiskAndCounts() {
         for (int block = 0; block < 16; block++) {
             due("read(" + block + ")", x.read(block), model.read(block));
         }
         for (int chain = 0; chain < 2; chain++) {
             due("backups(" + chain + ")", x.backups(chain), model.backups(chain));
             due("changed(" + chain + ")", x.changed(chain), model.changed(chain));
+        }
+    }
+
+    private void lookAtBackups() {
+        for (int chain = 0; chain < 2; chain++) {
             for (int k = 0; k < 6; k++) {
                 for (int block = 0; block < 16; block++) {
                     due("readBackup(" + chain + ", " + k + ", " + block + ")",
